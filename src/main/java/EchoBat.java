@@ -43,10 +43,8 @@ public final class EchoBat {
   private static final int TO_WIND = 300;
   private static final int TO_PUT = 1000;
 
-  private final byte[] tape = new byte[LONGEST_TEXT];
-  private int taped = 0;
-  private final Tokens tokens = new Tokens(tape);
-  private final Reader reader = new Reader(tokens);
+  private final Reader reader = new Reader();
+  private final Tape tape = reader.tape;
   private Valley valley = new Valley();
   private final State now = new State();
   private final State before = new State();
@@ -66,20 +64,20 @@ public final class EchoBat {
   // ---- the valley
 
   public int feed(int a, int b, int c, int d, int e) {
-    if (taped < 0 || taped + FED > LONGEST_TEXT) return NOT_NOW;
-    tapeInt(a);
-    tapeInt(b);
-    tapeInt(c);
-    tapeInt(d);
-    tapeInt(e);
-    return taped;
+    if (tape.fed > LONGEST_TEXT - FED) return NOT_NOW;
+    tape.add(a);
+    tape.add(b);
+    tape.add(c);
+    tape.add(d);
+    tape.add(e);
+    return tape.fed;
   }
 
   public int valley(int n) {
-    if (n < 0 || n > taped) return BAD_NUMBER;
+    if (n < 0 || n > tape.fed) return BAD_NUMBER;
     reader.readText(n);
-    taped = 0;
-    if (tokens.fault != 0) return FAULTY - tokens.fault;
+    tape.fed = 0;
+    if (tape.fault != 0) return FAULTY - tape.fault;
     valley = reader.valley;
     now.become(reader.start);
     past.forget();
@@ -87,8 +85,8 @@ public final class EchoBat {
   }
 
   public int fault(int what) {
-    if (what == 0) return tokens.fault;
-    return what == 1 ? tokens.place : NONE;
+    if (what == 0) return tape.fault;
+    return what == 1 ? tape.place : NONE;
   }
 
   public int cell(int c, int what) {
@@ -107,13 +105,13 @@ public final class EchoBat {
   }
 
   public int why(int way) {
-    return valley.whyNoStep(now, way);
+    return Math.max(0, -valley.stepOutcome(now, way));
   }
 
   public int by(int way, int what) {
     if (what != 0 && what != 1) return NO_SUCH;
     trial.become(now);
-    if (valley.makeStep(trial, way) != 0) return NOT_NOW;
+    if (valley.makeStep(trial, way) < 0) return NOT_NOW;
     return what == 0 ? trial.bat : trial.echoes;
   }
 
@@ -121,11 +119,10 @@ public final class EchoBat {
 
   public int fly(int way) {
     before.become(now);
-    int why = valley.makeStep(now, way);
-    if (why != 0) return WHY_NOT - why;
+    int outcome = valley.makeStep(now, way);
+    if (outcome < 0) return WHY_NOT + outcome;
     past.remember(before);
-    // what the step added to the set is the one KIND it took up
-    return kindOf(now.echoes & ~before.echoes);
+    return outcome;
   }
 
   public int off(int c) {
@@ -213,8 +210,7 @@ public final class EchoBat {
     int refusal = comingRefusal(c, with, without);
     if (refusal != 0) return refusal;
     if (n < 0 || n > MOST_WAYS) return BAD_NUMBER;
-    flights.start(valley, now);
-    flights.flyAll(n, Flights.COUNTING);
+    flights.flyAll(valley, now, n, Flights.COUNTING);
     return flights.amountOf(c, with, without);
   }
 
@@ -290,14 +286,16 @@ public final class EchoBat {
   public long came(int n, int c, int echoes) {
     int refusal = cameRefusal(n, c, echoes);
     if (refusal != 0) return refusal;
-    return flownTo(n, c, echoes, Flights.COUNTING);
+    flights.flyAll(valley, now, n, Flights.COUNTING);
+    return flights.amountAt(c, echoes);
   }
 
   public int cameBy(int n, int c, int echoes, int i) {
     int refusal = cameRefusal(n, c, echoes);
     if (refusal != 0) return refusal;
     if (i < 0) return BAD_NUMBER;
-    long first = flownTo(n, c, echoes, Flights.FIRST);
+    flights.flyAll(valley, now, n, Flights.FIRST);
+    long first = flights.amountAt(c, echoes);
     if (first == NONE || i >= n) return NONE;
     return (int) (first >> 2 * (n - 1 - i) & 3);
   }
@@ -305,7 +303,8 @@ public final class EchoBat {
   public int surely(int n, int c, int echoes) {
     int refusal = cameRefusal(n, c, echoes);
     if (refusal != 0) return refusal;
-    long sure = flownTo(n, c, echoes, Flights.SURE);
+    flights.flyAll(valley, now, n, Flights.SURE);
+    long sure = flights.amountAt(c, echoes);
     return sure == NONE ? 0 : (int) sure;
   }
 
@@ -368,20 +367,20 @@ public final class EchoBat {
   public int chance(int c, int echoes, int n, int what) {
     if (!valley.has(c) || what < 0 || what > 1) return NO_SUCH;
     if (notSet(echoes) || n < 0 || n > MOST_DRAWN) return BAD_NUMBER;
-    drawAll(n);
+    flights.flyAll(valley, now, n, Flights.DRAWING);
     return partOfAll(flights.amountOf(c, echoes, 0), n, what);
   }
 
   public int mean(int n, int what) {
     if (what < 0 || what > 1) return NO_SUCH;
     if (n < 0 || n > MOST_DRAWN) return BAD_NUMBER;
-    drawAll(n);
+    flights.flyAll(valley, now, n, Flights.DRAWING);
     return partOfAll(flights.echoesInAll(), n, what);
   }
 
   public int likeliest(int n) {
     if (n < 0 || n > MOST_DRAWN) return BAD_NUMBER;
-    drawAll(n);
+    flights.flyAll(valley, now, n, Flights.DRAWING);
     int found = 0;
     long greatest = NONE;
     for (int c = 0; c < MOST_CELLS; c++) {
@@ -453,20 +452,13 @@ public final class EchoBat {
       case 7: return valley.houses;
       case 8: return now.steps;
       case 9: return past.size;
-      case 10: return taped;
+      case 10: return tape.fed;
       case 11: return valley.lines;
       default: return NONE;
     }
   }
 
   // ---- help for the calls
-
-  private void tapeInt(int v) {
-    for (int shift = 24; shift >= 0; shift -= 8) {
-      if (taped >= 0 && taped < tape.length) tape[taped] = (byte) (v >>> shift);
-      taped++;
-    }
-  }
 
   private boolean doAlone(int deed) {
     before.become(now);
@@ -481,13 +473,6 @@ public final class EchoBat {
       if (valley.doDeed(state, deeds.numberAt(i)) != 0) return i;
     }
     return deeds.size;
-  }
-
-  private static int kindOf(int bit) {
-    for (int kind = 1; kind <= TOP_KIND; kind++) {
-      if (bit == bitOf(kind)) return kind;
-    }
-    return 0;
   }
 
   private static int bitOf(int kind) {
@@ -533,15 +518,12 @@ public final class EchoBat {
     return flights.setsAt(c);
   }
 
-  private long flownTo(int n, int c, int echoes, int sort) {
-    flights.start(valley, now);
-    flights.flyAll(n, sort);
-    return flights.amountAt(Flights.codeOf(c, echoes));
-  }
-
   /** Lets the trial state fly: whether it could, and has just these ECHOES then. */
   private boolean couldFly(Tray flown, int echoes) {
-    return doAll(flown, trial) == flown.size && trial.echoes == echoes;
+    for (int i = 0; i < flown.size; i++) {
+      if (valley.makeStep(trial, (int) flown.numberAt(i)) < 0) return false;
+    }
+    return trial.echoes == echoes;
   }
 
   private int windsOf(Tray flown, int echoes) {
@@ -589,14 +571,9 @@ public final class EchoBat {
   private int forcingStep(int h, int echoes) {
     for (int way = 0; way < DIRECTIONS; way++) {
       trial.become(now);
-      if (valley.makeStep(trial, way) == 0 && isAt(trial, h, echoes)) return way;
+      if (valley.makeStep(trial, way) >= 0 && isAt(trial, h, echoes)) return way;
     }
     return NONE;
-  }
-
-  private void drawAll(int n) {
-    flights.start(valley, now);
-    flights.flyAll(n, Flights.DRAWING);
   }
 
   /** A fraction of all draws of n directions in lowest terms; what is below is a power of two. */
@@ -652,6 +629,10 @@ public final class EchoBat {
 
   /** What a text says for good, and by which a STEP or another deed is judged and done. */
   private static final class Valley {
+    static final int STAYS = 1;
+    static final int GOES = 2;
+    static final int GOES_AND_TAKES = 3;
+
     int rows = 1;
     int columns = 1;
     int bears = 3;
@@ -708,39 +689,42 @@ public final class EchoBat {
       }
     }
 
-    boolean mayGo(int from, int to, int load, int wind) {
-      return may == null || may.holds(heightOf(to), heightOf(from), load, wind, to, 0);
+    /** What the laws say of a STEP with a load, where a KIND stands: STAYS, GOES or GOES_AND_TAKES. */
+    int verdict(int from, int to, int load, int wind, int kind) {
+      int height = heightOf(to);
+      int heightFrom = heightOf(from);
+      if (may != null && !may.holds(height, heightFrom, load, wind, to, kind)) return STAYS;
+      if (kind < 1 || load >= bears) return GOES;
+      if (takes != null && !takes.holds(height, heightFrom, load, wind, to, kind)) return GOES;
+      return GOES_AND_TAKES;
     }
 
-    /** Whether the KIND is taken up, but for its having it already. */
-    boolean takesUp(int from, int to, int load, int wind, int kind) {
-      if (kind < 1 || load >= bears) return false;
-      return takes == null || takes.holds(heightOf(to), heightOf(from), load, wind, to, kind);
-    }
-
-    int whyNoStep(State s, int way) {
-      if (way < 0 || way >= DIRECTIONS) return NO_SUCH_THING;
+    /** What a STEP would bring: the KIND it takes up (0: none), or why it can't be, below 0. */
+    int stepOutcome(State s, int way) {
+      if (way < 0 || way >= DIRECTIONS) return -NO_SUCH_THING;
       int to = neighbour(s.bat, way);
-      if (to == NONE) return NO_CELL;
-      if (s.hasDrift(to)) return DRIFTED;
-      return mayGo(s.bat, to, Integer.bitCount(s.echoes), s.wind) ? 0 : FORBIDDEN;
-    }
-
-    /** Makes a STEP, if it can be: why not, or 0. */
-    int makeStep(State s, int way) {
-      int why = whyNoStep(s, way);
-      if (why != 0) return why;
-      int to = neighbour(s.bat, way);
+      if (to == NONE) return -NO_CELL;
+      if (s.hasDrift(to)) return -DRIFTED;
       int kind = s.thingIn(to);
-      if (takesUp(s.bat, to, Integer.bitCount(s.echoes), s.wind, kind)) s.echoes |= bitOf(kind);
-      s.bat = to;
+      int verdict = verdict(s.bat, to, Integer.bitCount(s.echoes), s.wind, kind);
+      if (verdict == STAYS) return -FORBIDDEN;
+      boolean taken = verdict == GOES_AND_TAKES && (s.echoes & bitOf(kind)) == 0;
+      return taken ? kind : 0;
+    }
+
+    /** Makes a STEP, if it can be: its outcome. */
+    int makeStep(State s, int way) {
+      int outcome = stepOutcome(s, way);
+      if (outcome < 0) return outcome;
+      s.echoes |= bitOf(outcome);
+      s.bat = neighbour(s.bat, way);
       s.steps++;
-      return 0;
+      return outcome;
     }
 
     /** Does a deed as a TRAY tells it, if it can be: why not, or 0. */
     int doDeed(State s, long deed) {
-      if (deed >= 0 && deed < DIRECTIONS) return makeStep(s, (int) deed);
+      if (deed >= 0 && deed < DIRECTIONS) return Math.max(0, -makeStep(s, (int) deed));
       if (deed >= LET_GO && deed < LET_GO + 100) return letGo(s, (int) deed - LET_GO);
       if (deed >= TO_DRIFT && deed < TO_DRIFT + 100) return turnDrift(s, (int) deed - TO_DRIFT);
       if (deed >= TO_WIND && deed <= TO_WIND + TOP_WIND) {
@@ -865,9 +849,6 @@ public final class EchoBat {
     private static final int CODES = MOST_CELLS * SETS;
     private static final int NOT_COME = -1;
     private static final int UNKNOWN = 0;
-    private static final int STAYS = 1;
-    private static final int GOES = 2;
-    private static final int TAKES = 3;
 
     private Valley valley = new Valley();
     private final State state = new State();
@@ -876,11 +857,13 @@ public final class EchoBat {
     /** The CELLS that the traced flight came into. */
     int crossed = 0;
     private int found = 0;
+    private int steps = 0;
     /** What the laws say of a CELL, a direction and a load: they are dear to ask again. */
     private final byte[] verdicts = new byte[MOST_CELLS * DIRECTIONS * (TOP_KIND + 1)];
     private final int[] order = new int[CODES];
     /** Where a code was first come to from: 4 for each code, and the direction. */
     private final int[] origins = new int[CODES];
+    /** The directions of the traced flight, at the end of the row. */
     private final byte[] trace = new byte[CODES];
     private long[] amounts = new long[CODES];
     private long[] others = new long[CODES];
@@ -913,22 +896,14 @@ public final class EchoBat {
       int from = cellOf(code);
       int to = valley.neighbour(from, way);
       if (to == NONE || (drifts >> to & 1) == 1) return NONE;
-      int verdict = verdictOn(from, to, way, Integer.bitCount(setOf(code)));
-      if (verdict == STAYS) return NONE;
-      int taken = verdict == TAKES ? bitOf(state.thingIn(to)) : 0;
-      return codeOf(to, setOf(code) | taken);
-    }
-
-    private int verdictOn(int from, int to, int way, int load) {
+      int set = setOf(code);
+      int load = Integer.bitCount(set);
+      int kind = state.thingIn(to);
       int at = (load * DIRECTIONS + way) * MOST_CELLS + from;
-      if (at < 0 || at >= verdicts.length) return STAYS;
-      if (verdicts[at] == UNKNOWN) verdicts[at] = (byte) askLaws(from, to, load);
-      return verdicts[at];
-    }
-
-    private int askLaws(int from, int to, int load) {
-      if (!valley.mayGo(from, to, load, state.wind)) return STAYS;
-      return valley.takesUp(from, to, load, state.wind, state.thingIn(to)) ? TAKES : GOES;
+      if (at < 0 || at >= verdicts.length) return NONE;
+      if (verdicts[at] == UNKNOWN) verdicts[at] = (byte) valley.verdict(from, to, load, state.wind, kind);
+      if (verdicts[at] == Valley.STAYS) return NONE;
+      return codeOf(to, verdicts[at] == Valley.GOES_AND_TAKES ? set | bitOf(kind) : set);
     }
 
     private int startCode() {
@@ -940,28 +915,27 @@ public final class EchoBat {
     void spread() {
       Arrays.fill(origins, NOT_COME);
       int first = startCode();
-      // its own origin marks the start: no step comes ahead of it
       origins[first] = DIRECTIONS * first;
       order[0] = first;
       found = 1;
       for (int i = 0; i < found && i < CODES; i++) {
-        for (int way = 0; way < DIRECTIONS; way++) reachFrom(order[i], way);
+        for (int way = 0; way < DIRECTIONS; way++) {
+          int next = codeAfter(order[i], way);
+          if (!isCode(next) || origins[next] != NOT_COME || found >= CODES) continue;
+          origins[next] = DIRECTIONS * order[i] + way;
+          order[found] = next;
+          found++;
+        }
       }
-    }
-
-    private void reachFrom(int code, int way) {
-      int next = codeAfter(code, way);
-      if (!isCode(next) || origins[next] != NOT_COME || found >= CODES) return;
-      origins[next] = DIRECTIONS * code + way;
-      order[found] = next;
-      found++;
     }
 
     /** How many steps there are to it at fewest, which traced() tells then; or NONE. */
     int traceComing(int c, int with, int without) {
       spread();
       for (int i = 0; i < found && i < CODES; i++) {
-        if (isComing(order[i], c, with, without)) return traceTo(order[i]);
+        if (!isComing(order[i], c, with, without)) continue;
+        traceTo(order[i]);
+        return steps;
       }
       return NONE;
     }
@@ -971,22 +945,21 @@ public final class EchoBat {
       return cellOf(code) == c && (echoes & with) == with && (echoes & without) == 0;
     }
 
-    private int traceTo(int goal) {
+    private void traceTo(int goal) {
       int first = startCode();
-      int steps = 0;
       int code = goal;
       crossed = 0;
+      steps = 0;
       for (; steps < CODES && isCode(code) && code != first; steps++) {
         crossed |= 1 << cellOf(code);
-        trace[CODES - 1 - steps] = (byte) (origins[code] & DIRECTIONS - 1);
-        code = origins[code] >> 2;
+        trace[CODES - 1 - steps] = (byte) (origins[code] % DIRECTIONS);
+        code = origins[code] / DIRECTIONS;
       }
-      System.arraycopy(trace, CODES - steps, trace, 0, steps);
-      return steps;
     }
 
     int traced(int i) {
-      return i >= 0 && i < trace.length ? trace[i] : NONE;
+      int at = CODES - steps + i;
+      return at >= 0 && at < CODES ? trace[at] : NONE;
     }
 
     /** Behind spread(): the sets with which a CELL can be come to, bit k for the set k. */
@@ -1011,7 +984,8 @@ public final class EchoBat {
      * them, its directions as digits to base 4; SURE: the CELLS that all of them came into, as bits
      * (both NONE where no flight ends).
      */
-    void flyAll(int n, int sort) {
+    void flyAll(Valley here, State now, int n, int sort) {
+      start(here, now);
       long none = sort == FIRST || sort == SURE ? NONE : 0;
       Arrays.fill(amounts, none);
       amounts[startCode()] = sort == FIRST || sort == SURE ? 0 : 1;
@@ -1041,7 +1015,8 @@ public final class EchoBat {
       return there == NONE ? flight : Math.min(there, flight);
     }
 
-    long amountAt(int code) {
+    long amountAt(int c, int echoes) {
+      int code = codeOf(c, echoes);
       return isCode(code) ? amounts[code] : NONE;
     }
 
@@ -1064,8 +1039,7 @@ public final class EchoBat {
 
   /** A law, as codes in which each operator stands behind what it joins. */
   private static final class Law {
-    // a code below LEAST_NAME is a number; of operators the tens tell how closely they bind
-    static final int LEAST_NAME = 1000;
+    // numbers stand below the names; of operators the tens tell how closely they bind
     static final int HEIGHT = 1000;
     static final int FROM = 1001;
     static final int LOAD = 1002;
@@ -1093,7 +1067,6 @@ public final class EchoBat {
     private final int[] codes;
     private final int[] stack = new int[DEEPEST_STACK];
     private final int[] named = new int[THING - HEIGHT + 1];
-    private int top = 0;
 
     Law(int[] codes) {
       this.codes = codes;
@@ -1106,58 +1079,42 @@ public final class EchoBat {
       named[3] = wind;
       named[4] = cell;
       named[5] = thing;
-      top = 0;
-      for (int i = 0; i < codes.length; i++) weigh(codes[i]);
-      return pop() != 0;
-    }
-
-    private void weigh(int code) {
-      if (code < LEAST_NAME) {
-        push(code);
-      } else if (code <= THING) {
-        push(named[code - HEIGHT]);
-      } else if (code == NOT) {
-        push(pop() == 0 ? 1 : 0);
-      } else {
-        int right = pop();
-        int left = pop();
-        push(join(code, left, right));
+      int top = 0;
+      for (int i = 0; i < codes.length; i++) {
+        int code = codes[i];
+        int joins = code <= THING ? 0 : code == NOT ? 1 : 2;
+        if (top < joins || top - joins >= stack.length) return false;
+        int right = joins == 0 ? 0 : stack[top - 1];
+        top -= joins;
+        stack[top] = weigh(code, joins == 2 ? stack[top] : 0, right);
+        top++;
       }
+      return top > 0 && stack[0] != 0;
     }
 
-    private static int join(int code, int left, int right) {
+    private int weigh(int code, int left, int right) {
+      long sum;
       switch (code) {
+        case NOT: return right == 0 ? 1 : 0;
         case OR: return left | right;
         case AND: return left & right;
         case EQUAL: return left == right ? 1 : 0;
         case LESS: return left < right ? 1 : 0;
         case MORE: return left > right ? 1 : 0;
-        case PLUS: return keep((long) left + right);
-        case MINUS: return keep((long) left - right);
-        case TIMES: return keep((long) left * right);
-        default: return 0;
+        case PLUS: sum = (long) left + right; break;
+        case MINUS: sum = (long) left - right; break;
+        case TIMES: sum = (long) left * right; break;
+        default:
+          int name = code - HEIGHT;
+          return name >= 0 && name < named.length ? named[name] : code;
       }
-    }
-
-    private static int keep(long v) {
-      return (int) Math.max(-BOUND, Math.min(BOUND, v));
-    }
-
-    private void push(int v) {
-      if (top < 0 || top >= stack.length) return;
-      stack[top] = v;
-      top++;
-    }
-
-    private int pop() {
-      if (top < 1 || top > stack.length) return 0;
-      top--;
-      return stack[top];
+      if (sum > BOUND) return BOUND;
+      return sum < -BOUND ? -BOUND : (int) sum;
     }
   }
 
-  /** The text, a TOKEN at a time, and its first FAULT. */
-  private static final class Tokens {
+  /** THE TAPE: bytes that were fed, read as a text, a TOKEN at a time, as far as its first FAULT. */
+  private static final class Tape {
     static final int NO_TOKEN = 1;
     static final int MISPLACED = 2;
     static final int OUT_OF_BOUNDS = 3;
@@ -1166,25 +1123,31 @@ public final class EchoBat {
     static final int WORD = 1;
     static final int NUMBER = 2;
     static final int SIGN = 3;
+    private static final int BLANK = 4;
+    private static final int OTHER = 5;
     private static final int MOST_DIGITS = 3;
     private static final String SIGNS = ";:+-*()[]=<>";
 
-    private final byte[] text;
+    private final byte[] text = new byte[LONGEST_TEXT];
+    int fed = 0;
     private int length = 0;
     private int begin = 0;
     private int end = 0;
+    /** Of the TOKEN at hand. */
     int sort = END;
-    /** Of a NUMBER. */
     int value = 0;
     int fault = 0;
     int place = NONE;
 
-    Tokens(byte[] text) {
-      this.text = text;
+    void add(int bytes) {
+      for (int shift = 24; shift >= 0 && fed >= 0 && fed < LONGEST_TEXT; shift -= 8) {
+        text[fed] = (byte) (bytes >>> shift);
+        fed++;
+      }
     }
 
     void open(int n) {
-      length = Math.min(n, text.length);
+      length = Math.min(n, LONGEST_TEXT);
       end = 0;
       fault = 0;
       place = NONE;
@@ -1202,82 +1165,58 @@ public final class EchoBat {
     void advance() {
       if (fault != 0) return;
       begin = end;
-      while (begin < length && isBlank(signAt(begin))) begin++;
-      end = begin + 1;
-      if (begin >= length) {
-        sort = END;
-        end = begin;
-      } else if (isLetter(signAt(begin))) {
-        sort = WORD;
-        while (end < length && isLetter(signAt(end))) end++;
-      } else if (isDigit(signAt(begin))) {
-        readNumber();
-      } else if (SIGNS.indexOf(signAt(begin)) >= 0) {
-        sort = SIGN;
-      } else {
-        fail(NO_TOKEN);
+      while (begin < length && sortAt(begin) == BLANK) begin++;
+      sort = sortAt(begin);
+      end = sort == END ? begin : begin + 1;
+      if (sort == WORD || sort == NUMBER) {
+        while (end < length && sortAt(end) == sort) end++;
       }
+      if (sort == NUMBER) value = numberAtHand();
+      if (sort == OTHER || sort == NUMBER && end - begin > MOST_DIGITS) fail(NO_TOKEN);
     }
 
-    private void readNumber() {
-      sort = NUMBER;
-      while (end < length && isDigit(signAt(end))) end++;
-      value = 0;
-      if (end - begin > MOST_DIGITS) {
-        fail(NO_TOKEN);
-        return;
-      }
-      for (int i = begin; i < end; i++) value = 10 * value + signAt(i) - '0';
+    private int sortAt(int i) {
+      if (i < 0 || i >= length || i >= text.length) return END;
+      char sign = (char) (text[i] & 255);
+      if (sign == 10 || sign == 32) return BLANK;
+      if (sign >= 'a' && sign <= 'z') return WORD;
+      if (sign >= '0' && sign <= '9') return NUMBER;
+      return SIGNS.indexOf(sign) >= 0 ? SIGN : OTHER;
     }
 
-    private char signAt(int i) {
-      return i >= 0 && i < length && i < text.length ? (char) (text[i] & 255) : 0;
-    }
-
-    private static boolean isBlank(char sign) {
-      return sign == 10 || sign == 32;
-    }
-
-    private static boolean isLetter(char sign) {
-      return sign >= 'a' && sign <= 'z';
-    }
-
-    private static boolean isDigit(char sign) {
-      return sign >= '0' && sign <= '9';
+    private int numberAtHand() {
+      int number = 0;
+      for (int i = Math.max(begin, 0); i < end && i < text.length; i++) number = 10 * number + text[i] - '0';
+      return number;
     }
 
     boolean is(String token) {
-      if (token.length() != end - begin) return false;
+      if (begin < 0 || end > text.length || token.length() != end - begin) return false;
       for (int i = 0; i < token.length(); i++) {
-        if (signAt(begin + i) != token.charAt(i)) return false;
+        if ((text[begin + i] & 255) != token.charAt(i)) return false;
       }
       return true;
     }
 
     /** The sign at hand, or 0 if it is another TOKEN. */
     char sign() {
-      return sort == SIGN ? signAt(begin) : 0;
+      return sort == SIGN && begin >= 0 && begin < text.length ? (char) (text[begin] & 255) : 0;
     }
   }
 
   /** Reads a TEXT as far as its first FAULT. */
   private static final class Reader {
-    private final Tokens tokens;
-    private final LawReader laws;
+    private final LawReader laws = new LawReader();
+    final Tape tape = laws.tape;
     Valley valley = new Valley();
     final State start = new State();
-
-    Reader(Tokens tokens) {
-      this.tokens = tokens;
-      this.laws = new LawReader(tokens);
-    }
 
     void readText(int n) {
       valley = new Valley();
       start.clearAll();
-      tokens.open(n);
+      tape.open(n);
       readOpening();
-      for (int i = 0; i < n && tokens.fault == 0 && tokens.sort != Tokens.END; i++) readLine();
+      for (int i = 0; i < n && tape.fault == 0 && tape.sort != Tape.END; i++) readLine();
     }
 
     private void readOpening() {
@@ -1290,21 +1229,21 @@ public final class EchoBat {
     }
 
     private void readLine() {
-      if (tokens.is("row")) readRow();
-      else if (tokens.is("thing")) readThing();
-      else if (tokens.is("drift")) readDrift();
-      else if (tokens.is("house")) readHouse();
-      else if (tokens.is("wind")) readWind();
-      else if (tokens.is("bat")) readBat();
-      else if (tokens.is("may")) valley.may = readLaw(false);
-      else if (tokens.is("takes")) valley.takes = readLaw(true);
-      else tokens.fail(Tokens.MISPLACED);
+      if (tape.is("row")) readRow();
+      else if (tape.is("thing")) readThing();
+      else if (tape.is("drift")) readDrift();
+      else if (tape.is("house")) readHouse();
+      else if (tape.is("wind")) readWind();
+      else if (tape.is("bat")) readBat();
+      else if (tape.is("may")) valley.may = laws.readTruth(false);
+      else if (tape.is("takes")) valley.takes = laws.readTruth(true);
+      else tape.fail(Tape.MISPLACED);
       endLine();
     }
 
     private void expect(String token) {
-      if (tokens.is(token)) tokens.advance();
-      else tokens.fail(Tokens.MISPLACED);
+      if (tape.is(token)) tape.advance();
+      else tape.fail(Tape.MISPLACED);
     }
 
     private void endLine() {
@@ -1314,67 +1253,59 @@ public final class EchoBat {
 
     /** A number within bounds; the least one in place of a faulty one. */
     private int number(int least, int greatest) {
-      int value = tokens.value;
-      if (tokens.sort != Tokens.NUMBER) {
-        tokens.fail(Tokens.MISPLACED);
+      int value = tape.value;
+      if (tape.sort != Tape.NUMBER) {
+        tape.fail(Tape.MISPLACED);
       } else if (value < least || value > greatest) {
-        tokens.fail(Tokens.OUT_OF_BOUNDS);
+        tape.fail(Tape.OUT_OF_BOUNDS);
       }
-      if (tokens.fault != 0) return least;
-      tokens.advance();
+      if (tape.fault != 0) return least;
+      tape.advance();
       return value;
     }
 
-    private int cellNumber() {
-      return number(0, valley.rows * valley.columns - 1);
+    private int lastCell() {
+      return valley.rows * valley.columns - 1;
     }
 
     private void readRow() {
-      tokens.advance();
+      tape.advance();
       int first = valley.columns * number(0, valley.rows - 1);
       for (int i = 0; i < valley.columns; i++) valley.setHeight(first + i, number(0, TOP_HEIGHT));
     }
 
     private void readThing() {
-      tokens.advance();
-      int c = cellNumber();
+      tape.advance();
+      int c = number(0, lastCell());
       start.putThing(c, number(0, TOP_KIND));
     }
 
     private void readDrift() {
-      tokens.advance();
-      start.drifts |= 1 << cellNumber();
+      tape.advance();
+      start.drifts |= 1 << number(0, lastCell());
     }
 
     private void readHouse() {
-      if (valley.houses >= MOST_HOUSES) tokens.fail(Tokens.ONE_TOO_MANY);
-      tokens.advance();
-      valley.addHouse(cellNumber());
+      if (valley.houses >= MOST_HOUSES) tape.fail(Tape.ONE_TOO_MANY);
+      tape.advance();
+      valley.addHouse(number(0, lastCell()));
     }
 
     private void readWind() {
-      tokens.advance();
+      tape.advance();
       start.wind = number(0, TOP_WIND);
     }
 
     private void readBat() {
-      tokens.advance();
-      start.bat = cellNumber();
+      tape.advance();
+      start.bat = number(0, lastCell());
       start.echoes = 0;
-      for (int i = 0; i < LONGEST_TEXT && tokens.fault == 0 && tokens.sort == Tokens.NUMBER; i++) readEcho();
-    }
-
-    private void readEcho() {
-      int with = start.echoes | bitOf(Math.min(tokens.value, TOP_KIND));
-      if (Integer.bitCount(with) > valley.bears) tokens.fail(Tokens.OUT_OF_BOUNDS);
-      number(1, TOP_KIND);
-      start.echoes = with;
-    }
-
-    private Law readLaw(boolean ofTakes) {
-      tokens.advance();
-      expect(":");
-      return laws.readTruth(ofTakes);
+      for (int i = 0; i < LONGEST_TEXT && tape.fault == 0 && tape.sort == Tape.NUMBER; i++) {
+        int with = start.echoes | bitOf(Math.min(tape.value, TOP_KIND));
+        if (Integer.bitCount(with) > valley.bears) tape.fail(Tape.OUT_OF_BOUNDS);
+        number(1, TOP_KIND);
+        start.echoes = with;
+      }
     }
   }
 
@@ -1388,7 +1319,7 @@ public final class EchoBat {
     private static final int RIGHT = 1;
     private static final int WHOLE = 2;
 
-    private final Tokens tokens;
+    final Tape tape = new Tape();
     private final int[] codes = new int[LONGEST_TEXT];
     private final int[] waiting = new int[Law.DEEPEST_STACK];
     private int size = 0;
@@ -1403,17 +1334,16 @@ public final class EchoBat {
     /** Whether a UNIT begins here, so that not and [ can stand. */
     private boolean freshUnit = true;
 
-    LawReader(Tokens tokens) {
-      this.tokens = tokens;
-    }
-
     Law readTruth(boolean ofTakes) {
       clearAll();
-      for (int i = 0; i < LONGEST_TEXT && tokens.fault == 0 && !isOver(); i++) {
+      tape.advance();
+      if (!tape.is(":")) tape.fail(Tape.MISPLACED);
+      tape.advance();
+      for (int i = 0; i < LONGEST_TEXT && tape.fault == 0 && !isOver(); i++) {
         int code = codeAtHand(ofTakes);
         boolean stands = wantsAtom ? openAtom(code) : joinOn(code);
-        if (!stands) tokens.fail(Tokens.MISPLACED);
-        tokens.advance();
+        if (!stands) tape.fail(Tape.MISPLACED);
+        tape.advance();
       }
       settle(Law.OR);
       return new Law(Arrays.copyOf(codes, size));
@@ -1431,14 +1361,14 @@ public final class EchoBat {
     }
 
     private boolean isOver() {
-      return tokens.is(";") && !wantsAtom && side != LEFT && parens == 0 && brackets == 0;
+      return tape.is(";") && !wantsAtom && side != LEFT && parens == 0 && brackets == 0;
     }
 
     private int codeAtHand(boolean ofTakes) {
-      switch (tokens.sort) {
-        case Tokens.NUMBER: return tokens.value;
-        case Tokens.SIGN: return codeOfSign(tokens.sign());
-        case Tokens.WORD: return codeOfWord(ofTakes);
+      switch (tape.sort) {
+        case Tape.NUMBER: return tape.value;
+        case Tape.SIGN: return codeOfSign(tape.sign());
+        case Tape.WORD: return codeOfWord(ofTakes);
         default: return Law.NO_CODE;
       }
     }
@@ -1460,15 +1390,15 @@ public final class EchoBat {
     }
 
     private int codeOfWord(boolean ofTakes) {
-      if (tokens.is("height")) return Law.HEIGHT;
-      if (tokens.is("from")) return Law.FROM;
-      if (tokens.is("load")) return Law.LOAD;
-      if (tokens.is("wind")) return Law.WIND;
-      if (tokens.is("cell")) return Law.CELL;
-      if (tokens.is("thing") && ofTakes) return Law.THING;
-      if (tokens.is("or")) return Law.OR;
-      if (tokens.is("and")) return Law.AND;
-      return tokens.is("not") ? Law.NOT : Law.NO_CODE;
+      if (tape.is("height")) return Law.HEIGHT;
+      if (tape.is("from")) return Law.FROM;
+      if (tape.is("load")) return Law.LOAD;
+      if (tape.is("wind")) return Law.WIND;
+      if (tape.is("cell")) return Law.CELL;
+      if (tape.is("thing") && ofTakes) return Law.THING;
+      if (tape.is("or")) return Law.OR;
+      if (tape.is("and")) return Law.AND;
+      return tape.is("not") ? Law.NOT : Law.NO_CODE;
     }
 
     private boolean openAtom(int code) {
@@ -1480,7 +1410,7 @@ public final class EchoBat {
       }
       boolean opens = code == Law.PAREN || freshUnit && (code == Law.NOT || code == Law.BRACKET);
       if (!opens) return false;
-      if (depth >= DEEPEST) tokens.fail(Tokens.ONE_TOO_MANY);
+      if (depth >= DEEPEST) tape.fail(Tape.ONE_TOO_MANY);
       depth++;
       await(code);
       if (code == Law.BRACKET) brackets++;
@@ -1499,7 +1429,11 @@ public final class EchoBat {
         close();
         return true;
       }
-      if (code == Law.EQUAL || code == Law.LESS || code == Law.MORE) return side == LEFT && compareBy(code);
+      if (code == Law.EQUAL || code == Law.LESS || code == Law.MORE) {
+        if (side != LEFT) return false;
+        side = RIGHT;
+        return joinBy(code);
+      }
       if (side == LEFT) return false;
       if (code == Law.AND || code == Law.OR) {
         side = LEFT;
@@ -1511,11 +1445,6 @@ public final class EchoBat {
       side = WHOLE;
       close();
       return true;
-    }
-
-    private boolean compareBy(int code) {
-      side = RIGHT;
-      return joinBy(code);
     }
 
     private boolean joinBy(int code) {
