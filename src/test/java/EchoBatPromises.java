@@ -107,7 +107,30 @@ public final class EchoBatPromises {
     counts(x, 1, 3, 1, 0, 0, 0, 0, 2, 0, 0, 0, 4);
     due("undo", x.undo(1), -3);
     laterLinesStrike();
+    nothingIsLeft();
     laws();
+  }
+
+  /** Nothing of an earlier text, good or faulty, is in a later one. */
+  private static void nothingIsLeft() {
+    EchoBat x = in("valley 2 2 bears 3;row 0 9 9;thing 1 5;thing 3 6;drift 3;wind 4;bat 2 5;house 1;may : 1 = 2;takes : 1 = 2;");
+    due("next", tell(x, "valley 2 2 bears 3;thing 0 1;wind 0;"), 3);
+    counts(x, 2, 2, 3, 0, 0, 0, 0, 0, 0, 0, 0, 3);
+    for (int c = 1; c < 4; c++) {
+      due("height", x.cell(c, 0), 0);
+      due("kind", x.cell(c, 1), 0);
+    }
+    due("no law", x.why(1), 0);
+    due("no law", x.fly(1), 0);
+    due("takes", x.fly(3), 1);
+    due("steps", tell(x, LANE), 4);
+    due("steps", x.count(8), 0);
+    due("faulty in six", tell(x, SMALL + "may : not [[[[(1 = "), -32);
+    due("six again", tell(x, SMALL + "may : not [[[[(1) + 1 = 3 - 1]]]];"), 2);
+    due("no", x.why(1), 4);
+    due("faulty", tell(x, "valley 2 2 bears 6;bat 3 1 2 3;drift 1;wind 9;thing 1 1;x"), -32);
+    counts(x, 2, 2, 1, 0, 0, 0, 0, 0, 0, 0, 0, 2);
+    due("kind", x.cell(1, 1), 0);
   }
 
   private static void laterLinesStrike() {
@@ -164,6 +187,9 @@ public final class EchoBatPromises {
     faultAt("valley 1 1 bear 1;", 2, 11);
     faultAt("valley 5 $", 3, 7);
     faultAt("valley $ 5", 1, 7);
+    faultAt("valley 1 1 bears 1;\u00ff", 1, 19);
+    faultAt("valley 1 1 bears 1;zzz", 2, 19);
+    faultAt("valley 1 1 bears 1;wind 0;wind 9;", 0, -1);
     String[] texts = {"valley 2 2 bears 1;", "row 2 0 0;", "row 0 0;", "row 0 0 0 10;", "row 0 0 0 1000;", "row 0 0 10;", "row;", "thing 4 0;",
         "thing 0 7;", "thing 0 0 0;", "drift 4;", "drift 0 0;", "house 4;", "wind 10;", "wind;", "wind 1000;", "bat 4;", "bat 0 0;", "bat 0 7;",
         "bat 0 1 2;", "bat 0 1 1 1 2;", "bat;", "cell 0;", ";", "house 0;house 0;house 0;house 0;house 9;", "row 0 0 0", "takes thing = 1;"};
@@ -382,6 +408,9 @@ public final class EchoBatPromises {
     due("undone as a whole", x.undo(1), 0);
     counts(x, 1, 3, 1, 0, 0, 0, 0, 2, 0, 0);
     due("kind back", x.cell(1, 1), 4);
+    fill(x, 3, 1, 309);
+    due("one deed", x.perform(3), 1);
+    due("can be undone", x.undo(1), 0);
     due("all", x.perform(1), 3);
     counts(x, 1, 3, 1, 2, 0, 0, 0, 2, 2, 1);
   }
@@ -393,6 +422,13 @@ public final class EchoBatPromises {
     due("-1 times", x.night(1, -1), -3);
     due("41 times", x.night(1, 41), -3);
     due("undoable", x.count(9), 0);
+    for (int seed = 0; seed < 20; seed++) {
+      x.wind(7);
+      int could = x.night(seed, 1);
+      due("one time", x.undo(could + 1), 0);
+      due("wind", x.count(6), 0);
+    }
+    due("40 times", x.night(1, 40) > 0 ? 1 : 0, 1);
     for (int seed = -40; seed < 40; seed++) {
       EchoBat a = in("valley 3 4 bears 2;thing 5 1;thing 6 2;");
       EchoBat b = in("valley 3 4 bears 2;thing 5 1;thing 6 2;");
@@ -446,6 +482,29 @@ public final class EchoBatPromises {
     due("set 64", x.soonest(0, 0, 64), -3);
     due("set -1", x.soonest(0, 0, -1), -3);
     due("both", x.soonest(0, 3, 2), -3);
+    EchoBat cleared = in(HILL);
+    cleared.drift(3);
+    due("the drift goes", cleared.soonest(3, 0, 0), 1);
+    EchoBat windy = in("valley 1 2 bears 1;thing 1 1;may : wind < 3;takes : wind < 2;");
+    due("no wind", windy.soonest(1, 1, 0), 1);
+    windy.wind(2);
+    due("some", windy.soonest(1, 1, 0), -1);
+    due("some", windy.soonest(1, 0, 0), 1);
+    due("some", windy.way(1, 0, 1, 0), 1);
+    windy.wind(3);
+    due("much", windy.soonest(1, 0, 0), -1);
+    due("much", windy.way(1, 0, 0, 0), -1);
+    windy.wind(0);
+    windy.put(1, 2);
+    due("another kind", windy.soonest(1, 2, 0), 1);
+    due("another kind", windy.way(1, 2, 0, 0), 1);
+    due("last", windy.way(1, 2, 0, 1), -1);
+    // laws by the load: each load has its own answer
+    EchoBat loaded = in("valley 1 4 bears 6;thing 0 4;thing 1 1;thing 2 2;thing 3 3;may : cell < 2 or load > 0 and cell = 2 or load > 1;takes : not load = 3;");
+    due("with three", loaded.soonest(3, 7, 0), 3);
+    due("never four", loaded.soonest(0, 15, 0), -1);
+    due("back with 4", loaded.soonest(0, 9, 6), 2);
+    due("sets", loaded.heard(), 15);
     promise = 19;
     int[] first = {1, 1, 2, -1};
     int[] other = {1, 2, 1, -1};
@@ -486,6 +545,7 @@ public final class EchoBatPromises {
     due("alone", in(SMALL + "drift 1;drift 2;drift 0;bat 0;").reach(), 1);
     promise = 23;
     due("heard", x.heard(), 7);
+    due("alone", in("valley 1 1 bears 2;bat 0 1 6;").heard(), 33);
     due("those it has", in(SMALL + "bat 0 6;thing 0 1;thing 1 2;").heard(), 32);
     due("where it is only by coming back", in("valley 2 2 bears 6;thing 0 1;").heard(), 1);
     due("alone", in("valley 1 1 bears 6;thing 0 1;").heard(), 0);
@@ -614,6 +674,16 @@ public final class EchoBatPromises {
     due("winds", z.winds(0, 0), 511);
     due("parts best", z.attempt(0, 0), 3);
     due("none", z.attempt(0, 1), -1);
+    EchoBat last = in("valley 1 3 bears 1;bat 1;may : cell = 2 or cell = 1 or wind > 7;");
+    fill(last, 0, 0, 1);
+    due("winds 8, 9 from eight", last.attempt(0, 0), 3);
+    EchoBat many = in("valley 2 2 bears 1;bat 0;thing 1 1;thing 2 2;may : not [cell = 1 and wind = 9] and not [cell = 2 and wind > 7];takes : wind > 4;"
+        + "house 0;");
+    fill(many, 0, 0, 1, 3);
+    due("without", many.winds(0, 0), 31);
+    due("nothing parts these", many.attempt(0, 0), 0);
+    due("with", many.winds(0, 1), 480);
+    due("one of four from three", many.attempt(0, 1), 2);
     due("tray", z.attempt(4, 0), -2);
     due("missing", z.attempt(1, 0), -6);
     fill(z, 1, 0);
@@ -711,6 +781,12 @@ public final class EchoBatPromises {
     due("the first", x.write(0, 0, 5), -7);
     x.numbers(0, 0, 1);
     due("0 is a step that can't be", x.judge(0, 1), 2);
+    fill(x, 0, 2, 7, 7, 7);
+    x.numbers(0, 2, 3);
+    due("all 0 again", x.judge(0, 1), 2);
+    fill(x, 0, 2, 1, 1);
+    x.numbers(0, 2, 3);
+    due("all 0 again", x.judge(0, 0), 0);
     promise = 40;
     long[][] cut = {{200, -56, 200, 200, 200}, {-129, 127, -129, -129, -129}, {40000, 64, -25536, 40000, 40000},
         {4294967295L, -1, -1, -1, 4294967295L}, {2147483648L, 0, 0, -2147483648L, 2147483648L}};
