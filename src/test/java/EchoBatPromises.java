@@ -221,6 +221,8 @@ public final class EchoBatPromises {
     faultAt(SMALL + "may : not [not [not (1) = 1 and 2 = 1]];", 0, -1);
     faultAt(SMALL + "may : not [not [not ((1)) = 1 and 2 = ((1))]];", 4, SMALL.length() + 6 + 15);
     faultAt(SMALL + "may : not [not [not (1) = 1 and 2 = ((1))]];", 0, -1);
+    faultAt(SMALL + "may : not not not not not not 1 = 1 and not not not not not not 1 = 1;", 0, -1);
+    faultAt(SMALL + "may : [[[[[[1 + 1 = 2 and 1 = 1 or not 1 = 1]]]]]];", 4, SMALL.length() + 6 + 29);
     faultAt(SMALL + "takes : thing = 1;", 0, -1);
     faultAt(SMALL + "takes : kind = 1;", 2, SMALL.length() + 8);
   }
@@ -354,6 +356,11 @@ public final class EchoBatPromises {
     due("all", x.undo(2), 0);
     counts(x, 1, 3, 1, 0, 0, 0, 0, 2, 0, 0);
     due("kind gone", x.cell(0, 1), 0);
+    x.put(2, 3);
+    x.fly(1);
+    due("the step alone", x.undo(1), 1);
+    due("what was put", x.cell(2, 1), 3);
+    due("and that", x.undo(1), 0);
     for (int i = 1; i <= 9; i++) x.wind(i);
     x.fly(0);
     due("a refused call can't be undone", x.count(9), 9);
@@ -456,6 +463,7 @@ public final class EchoBatPromises {
       due("one call", a.count(9), 1);
       due("undone", a.undo(1), 0);
       counts(a, 3, 4, 2, 0, 0, 0, 0, 0, 0, 0);
+      due("kind back", a.cell(5, 1), 1);
     }
     EchoBat still = new EchoBat();
     int seed = 0;
@@ -492,8 +500,8 @@ public final class EchoBatPromises {
     due("some", windy.soonest(1, 0, 0), 1);
     due("some", windy.way(1, 0, 1, 0), 1);
     windy.wind(3);
-    due("much", windy.soonest(1, 0, 0), -1);
     due("much", windy.way(1, 0, 0, 0), -1);
+    due("much", windy.soonest(1, 0, 0), -1);
     windy.wind(0);
     windy.put(1, 2);
     due("another kind", windy.soonest(1, 2, 0), 1);
@@ -677,6 +685,15 @@ public final class EchoBatPromises {
     EchoBat last = in("valley 1 3 bears 1;bat 1;may : cell = 2 or cell = 1 or wind > 7;");
     fill(last, 0, 0, 1);
     due("winds 8, 9 from eight", last.attempt(0, 0), 3);
+    EchoBat ends = in("valley 1 3 bears 1;bat 1;may : cell = 2 and wind > 7 or cell = 0 and wind = 9;");
+    fill(ends, 0, 0, 1);
+    due("8 from 9", ends.attempt(0, 0), 3);
+    // of the winds 1 to 4: three and one, or two and two; wind 0 would be with the fewer and make three of them
+    EchoBat cross = in("valley 2 3 bears 1;bat 4;may : cell = 4 or cell = 1 and wind > 0 and wind < 5 or cell = 5 and wind > 0 and wind < 4"
+        + " or cell = 3 and wind > 0 and wind < 3;");
+    fill(cross, 0, 0, 0, 2);
+    due("winds 1 to 4", cross.winds(0, 0), 30);
+    due("two and two", cross.attempt(0, 0), 3);
     EchoBat many = in("valley 2 2 bears 1;bat 0;thing 1 1;thing 2 2;may : not [cell = 1 and wind = 9] and not [cell = 2 and wind > 7];takes : wind > 4;"
         + "house 0;");
     fill(many, 0, 0, 1, 3);
@@ -737,6 +754,9 @@ public final class EchoBatPromises {
     due("set", x.chance(0, 64, 1, 0), -3);
     due("n", x.chance(0, 0, 9, 0), -3);
     due("n", x.chance(0, 0, -1, 0), -3);
+    due("kind 1", in(HILL).chance(1, 1, 1, 1), 4);
+    due("kind 1 too", in(HILL).chance(1, 0, 1, 0), 1);
+    due("kind 1 at the start", in("valley 1 1 bears 1;bat 0 1;").chance(0, 0, 3, 0), 1);
     EchoBat wall = in("valley 1 1 bears 1;");
     due("8", wall.chance(0, 0, 8, 0), 1);
     due("8", wall.chance(0, 0, 8, 1), 1);
@@ -754,6 +774,7 @@ public final class EchoBatPromises {
     due("n", x.mean(-1, 0), -3);
     promise = 38;
     due("here", x.likeliest(1), 0);
+    due("here with kind 1", in("valley 1 3 bears 1;bat 1 1;").likeliest(0), 1);
     due("here", in("valley 1 3 bears 1;bat 2;").likeliest(2), 2);
     due("the first of like ones", in("valley 1 2 bears 1;bat 1;may : not [from = 0 and cell = 0 and wind = 1];").likeliest(0), 1);
     due("away", in("valley 2 2 bears 1;row 0 0 1;row 1 1 0;may : height > from;").likeliest(8), 1);
