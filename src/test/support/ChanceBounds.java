@@ -158,6 +158,25 @@ final class ChanceBounds {
     parts.fill(0, 0, 3);
     parts.leaves(1023, "winds", 0, 0);
     parts.leaves(2, "attempt", 0, 0);
+    // nine and one, in the last direction alone
+    Bat nine = Bat.in("valley 3 3 bears 1;bat 4;may : not cell = 3 or wind < 9;");
+    nine.fill(0, 0, 0);
+    nine.leaves(3, "attempt", 0, 0);
+    // six and four to the right, five and five below, with WIND 0 and with WIND 9 among the six, and with every second WIND
+    for (String six : new String[] {"wind < 6", "wind > 3"}) {
+      Bat b = Bat.in("valley 3 3 bears 1;bat 4;may : not [cell = 5 and " + six + "] and not [cell = 7 and wind > 4];");
+      b.fill(0, 0, 3);
+      b.leaves(2, "attempt", 0, 0);
+    }
+    String[] odd = {"wind = 1", "wind = 3", "wind = 5", "wind = 7"};
+    Bat second = Bat.in("valley 3 3 bears 1;bat 4;may : not [cell = 5 and [" + String.join(" or ", odd) + "]] and not [cell = 7 and wind > 4];");
+    second.fill(0, 0, 3);
+    second.leaves(2, "attempt", 0, 0);
+    // of WINDS 1 to 4 three and one to the right, two and two to the left; those that can't be would make three of the two
+    Bat some = Bat.in("valley 2 3 bears 1;bat 4;may : cell = 4 or wind > 0 and [cell = 1 and wind < 5 or cell = 5 and wind < 4 or cell = 3 and wind < 3];");
+    some.fill(0, 0, 0, 2);
+    some.leaves(30, "winds", 0, 0);
+    some.leaves(3, "attempt", 0, 0);
     // the same to the left and to the right: the first
     Bat like = Bat.in("valley 3 3 bears 1;bat 4;may : cell = 1 or cell = 4 or wind < 5;");
     like.fill(0, 0, 0);

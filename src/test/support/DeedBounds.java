@@ -337,6 +337,7 @@ final class DeedBounds {
     b.counts(1, 3, 1, 2, 0, 0, 3, 0, 1, 1);
     b.due(0, "undo", 1);
     b.counts(1, 3, 1, 1, 0, 0, 0, 0, 0, 0);
+    eachUndone();
     name("10 at most (eldest are forgotten)");
     for (int calls : new int[] {9, 10, 11, 12, 19, 20, 21, 25, 101}) {
       Bat many = new Bat();
@@ -360,6 +361,24 @@ final class DeedBounds {
     all.counts(4, 4, 6, 14, 2, 2, 8, 0, 0, 0);
     all.due(0, "cell", 0, 1);
     all.due(6, "cell", 15, 1);
+  }
+
+  /** Each call that does something brings back by UNDOING what stood ahead of it, however much was done and undone before. */
+  private static void eachUndone() {
+    String[] calls = {"fly", "off", "put", "drift", "wind", "perform", "night"};
+    long[][] args = {{1}, {3}, {1, 5}, {2}, {9}, {0}, {7, 40}};
+    Bat b = Bat.in("valley 2 2 bears 2;thing 1 1;thing 2 2;bat 0 6;wind 4;");
+    b.fill(0, 1, 1, 303, 1033, 201);
+    for (int round = 0; round < 2; round++) {
+      for (int i = 0; i < calls.length; i++) {
+        Sentences.holds(calls[i] + " did nothing", b.ask(calls[i], args[i]) >= 0);
+        b.due(1, "count", 9);
+        b.due(0, "undo", 1);
+        b.counts(2, 2, 2, 0, 32, 0, 4, 0, 0, 0);
+        int[] kinds = {0, 1, 2, 0};
+        for (int c = 0; c < 4; c++) b.due(kinds[c], "cell", c, 1);
+      }
+    }
   }
 
   // ---- promises

@@ -38,6 +38,7 @@ final class FlightBounds {
     b.leaves(0, "soonest", 2, 0, 0);
     b.ask("drift", 1);
     b.leaves(-1, "soonest", 0, 0, 0);
+    onOneObject();
     name("COMING to a CELL with a set of ECHOES, without another set: a FLIGHT behind which it is there, has all of the one, none of the other");
     Bat all = Bat.in(Valleys.LONG);
     all.leaves(44, "soonest", 2, 63, 0);
@@ -57,6 +58,26 @@ final class FlightBounds {
     Bat other = Bat.in(Valleys.RING + "thing 1 6;");
     other.due(2, "way", 3, 0, 32, 0);
     other.due(1, "way", 3, 0, 0, 0);
+  }
+
+  /** What was asked ahead of a call, and in another state, doesn't change its answer. */
+  private static void onOneObject() {
+    String[] calls = {"heard", "reach", "soonest", "way", "ways", "needed", "most", "tidings", "came", "cameBy", "surely", "chance", "mean", "likeliest",
+        "ways", "came", "cameBy", "surely", "chance", "heard"};
+    long[][] args = {{}, {}, {2, 1, 0}, {2, 1, 0, 1}, {1, 0, 0, 12}, {2, 1, 0}, {1}, {0}, {10, 0, 1}, {9, 1, 1, 0}, {10, 0, 1}, {1, 1, 8, 0}, {8, 0}, {3},
+        {1, 0, 0, 1}, {1, 1, 1}, {1, 1, 1, 0}, {1, 1, 1}, {1, 1, 1, 0}, {}};
+    String text = "valley 1 3 bears 6;thing 1 1;thing 2 6;house 2;may : wind < 3 or cell = 1;takes : wind < 2;";
+    String[] deeds = {"wind", "wind", "wind", "put", "drift", "wind", "off", "drift", "put"};
+    long[][] told = {{2}, {3}, {0}, {1, 3}, {1}, {1}, {2}, {1}, {1, 1}};
+    Bat one = Bat.in(text);
+    for (int done = 0; done <= deeds.length; done++) {
+      if (done > 0) one.ask(deeds[done - 1], told[done - 1]);
+      for (int i = 0; i < calls.length; i++) {
+        Bat fresh = Bat.in(text);
+        for (int k = 0; k < done; k++) fresh.ask(deeds[k], told[k]);
+        one.due(fresh.ask(calls[i], args[i]), calls[i], args[i]);
+      }
+    }
   }
 
   // ---- promises: coming

@@ -13,6 +13,7 @@ final class TextBounds {
     truths();
     sums();
     nesting();
+    lawsAnew();
     sizes();
     rows();
     things();
@@ -159,6 +160,8 @@ final class TextBounds {
     lawFaulty(2, 9, "1 = 1 and;");
     lawFaulty(2, 10, "1 = 1 and or 1 = 1;");
     lawFaulty(2, 6, "1 = 1 1 = 1;");
+    lawFaulty(2, 2, "1 or 1 = 1;");
+    lawFaulty(2, 2, "1 and 1 = 1;");
     name("UNIT: not UNIT, [ TRUTH ], or SUM, one of = < >, SUM.");
     for (String holding : new String[] {"1 = 1", "1 < 2", "2 > 1", "not 1 = 2 and 1 = 1", "not [1 = 1 and 1 = 2]"}) law(true, holding);
     for (String broken : new String[] {"1 = 0", "0 = 1", "1 < 1", "2 < 1", "1 > 1", "1 > 2", "not 1 = 1 and 1 = 2", "[1 = 1 or 1 = 1] and 1 = 2"}) {
@@ -166,6 +169,8 @@ final class TextBounds {
     }
     for (String cut : new String[] {"1", "1 =", "not", "[", "[1", "[1 = 1"}) lawFaulty(2, cut.length(), cut + ";");
     lawFaulty(2, 0, "];");
+    lawFaulty(2, 2, "[1] = 1;");
+    lawFaulty(2, 6, "[1 + 1];");
     lawFaulty(2, 1, "[];");
     lawFaulty(2, 5, "1 = 1];");
     lawFaulty(2, 6, "1 = 1 = 1;");
@@ -239,6 +244,21 @@ final class TextBounds {
     lawFaulty(4, 13, "not 2 = ((((((1))))));");
     law(true, "not (((((1))))) = 2");
     lawFaulty(4, 9, "not ((((((1)))))) = 2;");
+  }
+
+  /** A law is read as if none had been read ahead of it, wherever that one broke off. */
+  private static void lawsAnew() {
+    name("At most six of not [ ( within one another.");
+    String[] broken = {"not [[[[(1 = ", "[[[[[[1 = 1", "((((((1", "1 = 1 or [1 = 1 and not (2 + 3 * ", "not not not not not not", "1 +", "1 = 1]", "1 = 1 and"};
+    for (String law : broken) {
+      Bat b = new Bat();
+      b.tell(SMALL + "may : " + law + ";");
+      Sentences.due("behind " + law, b.tell(SMALL + "may : not [[[[(1) + 1 = 3 - 1]]]];"), 2);
+      b.due(4, "why", 1);
+      b.tell(SMALL + "takes : " + law + ";");
+      Sentences.due("behind " + law, b.tell(SMALL + "may : [1 = 2 or 1 = 1] and not 2 + 3 * (1) = 6;"), 2);
+      b.due(0, "why", 1);
+    }
   }
 
   private static void sizes() {
@@ -553,6 +573,7 @@ final class TextBounds {
     b.due(-32, "valley", 0);
     b.due(0, "count", 10);
     b.refused(-3, "valley", 1);
+    nothingIsLeft();
     Sentences.name(3, "STEPS are 0, nothing can be UNDONE");
     Bat flown = Bat.rich();
     flown.due(1, "count", 8);
@@ -573,6 +594,20 @@ final class TextBounds {
     twenty.due(-32, "valley", 0);
     twenty.due(0, "fault", 1);
     for (long n : new long[] {-1, 1, Integer.MIN_VALUE, Integer.MAX_VALUE}) twenty.refused(-3, "valley", n);
+  }
+
+  /** Nothing of an earlier text, read or faulty, is in a later one. */
+  private static void nothingIsLeft() {
+    String told = "valley 2 2 bears 3;row 0 9 9;thing 1 5;thing 3 6;drift 3;wind 4;bat 2 5;house 1;may : 1 = 2;takes : 1 = 2;";
+    for (String behind : new String[] {"", "$"}) {
+      Bat b = new Bat();
+      b.tell(told + behind);
+      Sentences.due(SMALL, b.tell(SMALL), 1);
+      b.counts(2, 2, 2, 0, 0, 0, 0, 0, 0, 0, 0, 1);
+      for (int c = 0; c < 4; c++) for (int what = 0; what < 4; what++) b.due(what == 3 ? -1 : 0, "cell", c, what);
+      b.due(0, "put", 1, 6);
+      b.due(6, "fly", 1);
+    }
   }
 
   /** A faulty text changes nothing but THE TAPE, which is empty then, and the FAULT. */
