@@ -139,6 +139,13 @@ final class Bat {
 
   /** Has something of all that the document says: a FAULT, DEEDS done, all sorts of TRAYS, an IMAGE, a text on THE TAPE. */
   static Bat rich() {
+    Bat b = richWithoutTape();
+    b.feed("valley 1 1 bears 1; ");
+    return b;
+  }
+
+  /** The same, but THE TAPE is empty. */
+  static Bat richWithoutTape() {
     Bat b = in("valley 2 2 bears 2;row 0 1 2;row 1 3 4;thing 1 1;thing 2 2;thing 3 6;house 0;house 3;wind 4;bat 0 5;"
         + "may : height - from < 3 + wind;takes : thing < 6;");
     b.ask("wind", 3);
@@ -150,7 +157,6 @@ final class Bat {
     b.fill(0, 1, 3, 305, 1032);
     b.fill(1, 0, 3, 1);
     b.fill(3, 3);
-    b.feed("valley 1 1 bears 1; ");
     return b;
   }
 
@@ -220,6 +226,13 @@ final class Bat {
 
   private static String butImages(String seen) {
     return seen.substring(0, seen.indexOf("restore 0"));
+  }
+
+  /** Whatever the call answers, it changes nothing that can be seen. */
+  void onlyAsks(String name, long... args) {
+    Run r = again();
+    r.call(name, args);
+    Sentences.holds(told(name, args) + " changed something", r.wholly(true).equals(whollyWithout()));
   }
 
   /** A code of a refused call. */

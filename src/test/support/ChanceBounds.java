@@ -172,6 +172,10 @@ final class ChanceBounds {
     Bat second = Bat.in("valley 3 3 bears 1;bat 4;may : not [cell = 5 and [" + String.join(" or ", odd) + "]] and not [cell = 7 and wind > 4];");
     second.fill(0, 0, 3);
     second.leaves(2, "attempt", 0, 0);
+    // seven and three above, six and four to the right, of which no two are neighbours
+    Bat seven = Bat.in("valley 3 3 bears 1;bat 4;may : not [cell = 5 and [" + String.join(" or ", odd) + "]] and not [cell = 1 and wind > 6];");
+    seven.fill(0, 0, 3);
+    seven.leaves(1, "attempt", 0, 0);
     // of WINDS 1 to 4 three and one to the right, two and two to the left; those that can't be would make three of the two
     Bat some = Bat.in("valley 2 3 bears 1;bat 4;may : cell = 4 or wind > 0 and [cell = 1 and wind < 5 or cell = 5 and wind < 4 or cell = 3 and wind < 3];");
     some.fill(0, 0, 0, 2);

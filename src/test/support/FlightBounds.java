@@ -38,6 +38,7 @@ final class FlightBounds {
     b.leaves(0, "soonest", 2, 0, 0);
     b.ask("drift", 1);
     b.leaves(-1, "soonest", 0, 0, 0);
+    nothingElse();
     onOneObject();
     name("COMING to a CELL with a set of ECHOES, without another set: a FLIGHT behind which it is there, has all of the one, none of the other");
     Bat all = Bat.in(Valleys.LONG);
@@ -58,6 +59,23 @@ final class FlightBounds {
     Bat other = Bat.in(Valleys.RING + "thing 1 6;");
     other.due(2, "way", 3, 0, 32, 0);
     other.due(1, "way", 3, 0, 0, 0);
+  }
+
+  /** Calls that ask change nothing. */
+  private static void nothingElse() {
+    String[] calls = {"fault", "cell", "house", "why", "by", "judge", "soonest", "way", "ways", "needed", "reach", "heard", "most", "tidings", "tiding",
+        "secret", "came", "cameBy", "surely", "kinds", "winds", "attempt", "forces", "best", "chance", "mean", "likeliest", "count"};
+    long[][] args = {{0}, {3, 2}, {1}, {3}, {3, 1}, {0, 2}, {2, 0, 0}, {2, 0, 0, 1}, {2, 0, 0, 12}, {2, 0, 0}, {}, {}, {2}, {0}, {0, 0}, {0, 1}, {10, 1, 17},
+        {10, 1, 17, 0}, {10, 1, 17}, {1, 0, 17}, {1, 17}, {1, 17}, {0, 17}, {0, 17}, {0, 17, 8, 0}, {8, 1}, {8}, {9}};
+    Bat rich = Bat.rich();
+    Bat lane = Bat.in("valley 1 4 bears 2;thing 1 1;thing 2 6;wind 7;house 1;house 3;bat 0 5;may : wind > 6;");
+    lane.ask("put", 3, 3);
+    lane.fill(0, 0, 1);
+    lane.fill(1, 0, 1, 1);
+    for (int i = 0; i < calls.length; i++) {
+      rich.onlyAsks(calls[i], args[i]);
+      lane.onlyAsks(calls[i], args[i]);
+    }
   }
 
   /** What was asked ahead of a call, and in another state, doesn't change its answer. */

@@ -239,6 +239,11 @@ final class TextBounds {
     law(false, times(6, "not ") + "1 = 1 and " + times(5, "not ") + "1 = 1");
     law(true, "[" + times(5, "not ") + "1 = 2] and " + times(6, "not ") + "1 = 1");
     law(true, "[not 1 = 2 and " + times(5, "not ") + "1 = 2]");
+    // all that can wait for its other side at once
+    law(true, times(6, "1 = 2 or 1 = 1 and [") + "1 = 2 or 1 = 1 and 7 = 1 + 2 * 3" + times(6, "]"));
+    law(false, times(6, "1 = 2 or 1 = 1 and [") + "1 = 2 or 1 = 1 and 7 = 1 + 3 * 3" + times(6, "]"));
+    law(true, "1 = 2 or 1 = 1 and 7 = " + times(6, "0 + 1 * (") + "1 + 2 * 3" + times(6, ")"));
+    law(true, times(3, "1 = 2 or 1 = 1 and [") + "1 = 2 or 1 = 1 and 7 = " + times(3, "0 + 1 * (") + "1 + 2 * 3" + times(3, ")") + times(3, "]"));
     // a not is around both sides of its comparison
     law(true, "not 2 = (((((1)))))");
     lawFaulty(4, 13, "not 2 = ((((((1))))));");
@@ -252,7 +257,7 @@ final class TextBounds {
     String[] broken = {"not [[[[(1 = ", "[[[[[[1 = 1", "((((((1", "1 = 1 or [1 = 1 and not (2 + 3 * ", "not not not not not not", "1 +", "1 = 1]", "1 = 1 and"};
     for (String law : broken) {
       Bat b = new Bat();
-      b.tell(SMALL + "may : " + law + ";");
+      for (int i = 0; i < 8; i++) b.tell(SMALL + "may : " + law + ";");
       Sentences.due("behind " + law, b.tell(SMALL + "may : not [[[[(1) + 1 = 3 - 1]]]];"), 2);
       b.due(4, "why", 1);
       b.tell(SMALL + "takes : " + law + ";");
@@ -612,12 +617,9 @@ final class TextBounds {
 
   /** A faulty text changes nothing but THE TAPE, which is empty then, and the FAULT. */
   private static void allStays(String text) {
-    Bat without = Bat.rich();
-    without.ask("valley", 0);
-    Bat with = Bat.rich();
-    with.ask("valley", 0);
-    with.feed(text);
-    long answer = with.ask("valley", text.length());
+    Bat without = Bat.richWithoutTape();
+    Bat with = Bat.richWithoutTape();
+    long answer = with.tell(text);
     Sentences.holds("'" + text + "' answered " + answer, answer <= -31 && answer >= -34);
     Sentences.holds("'" + text + "' changed something", with.seenButFault().equals(without.seenButFault()));
   }

@@ -84,8 +84,7 @@ final class TrayBounds {
     b.refused(-12, "fly", 0);
     b.refused(-13, "fly", 2);
     Bat.in("valley 1 2 bears 1;may : 1 = 2;").refused(-14, "fly", 1);
-    Bat text = Bat.rich();
-    text.ask("valley", 0);
+    Bat text = Bat.richWithoutTape();
     String stood = text.seenButFault();
     String[] faulty = {"$", ";", "valley 5", "valley 1 1 bears 1;house 0;house 0;house 0;house 0;house 0;"};
     for (int fault = 1; fault <= 4; fault++) {
