@@ -189,6 +189,21 @@ final class ChanceBounds {
     Bat echoes = Bat.in("valley 3 3 bears 1;bat 4;thing 3 6;takes : wind < 5;");
     echoes.fill(0, 0, 0);
     echoes.leaves(3, "attempt", 0, 0);
+    // parted by CELL and ECHOES at once: it stays, or goes to the left or up and takes up a high KIND
+    Bat aside = Bat.in("valley 3 2 bears 6;bat 3;thing 2 5;may : cell = 1 or cell = 3 or cell = 2 and wind < 5;");
+    aside.fill(0, 0, 0, 2);
+    aside.leaves(1023, "winds", 0, 0);
+    aside.leaves(3, "attempt", 0, 0);
+    Bat up = Bat.in("valley 3 2 bears 6;bat 3;thing 1 6;may : cell = 5 or cell = 3 or cell = 1 and wind < 5;");
+    up.fill(0, 0, 2, 0);
+    up.leaves(1023, "winds", 0, 0);
+    up.leaves(0, "attempt", 0, 0);
+    up.ask("put", 1, 0);
+    up.ask("put", 5, 1);
+    up.leaves(0, "attempt", 0, 1);
+    Bat down = Bat.in("valley 3 2 bears 6;bat 3;thing 5 6;may : cell = 1 or cell = 3 or cell = 5 and wind < 5;");
+    down.fill(0, 0, 0, 2);
+    down.leaves(2, "attempt", 0, 0);
     // one WIND left: no STEP parts it further
     Bat one = Bat.in("valley 3 3 bears 1;bat 4;may : wind = 9;");
     one.fill(0, 0, 0);
@@ -257,6 +272,25 @@ final class ChanceBounds {
       b.leaves(way, "best", 0, 0);
       b.leaves(way, "best", 0, 32);
     }
+    // it was so, it is so again, and what was asked ahead tells nothing
+    Bat moved = Bat.in("valley 1 3 bears 6;thing 1 1;house 0;house 1;house 2;");
+    moved.due(-1, "best", 0, 0);
+    moved.ask("fly", 1);
+    moved.due(3, "best", 0, 0);
+    moved.due(3, "best", 0, 1);
+    moved.due(-1, "best", 1, 1);
+    moved.due(1, "best", 2, 0);
+    moved.due(1, "best", 2, 1);
+    moved.ask("by", 3, 0);
+    moved.due(3, "best", 0, 0);
+    moved.due(1, "forces", 0, 0);
+    moved.ask("undo", 1);
+    moved.due(-1, "best", 0, 0);
+    moved.due(0, "forces", 0, 0);
+    moved.due(1, "best", 1, 0);
+    // the number of one HOUSE is a set it has in another
+    Bat numbers = Bat.in("valley 1 2 bears 6;bat 0 1 2;house 0;house 1;house 1;house 1;");
+    for (int h = 1; h < 4; h++) numbers.due(1, "best", h, 0);
     Sentences.name(35, "NONE: she doesn't, it is so");
     Bat far = Bat.in("valley 1 3 bears 1;house 2;house 0;");
     far.leaves(-1, "best", 0, 0);

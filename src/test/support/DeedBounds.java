@@ -21,6 +21,7 @@ final class DeedBounds {
     whyNot();
     deedsOfSteps();
     deedsOfPuts();
+    deedsInSmallValleys();
     undoable();
     cells();
     whyAndBy();
@@ -284,6 +285,25 @@ final class DeedBounds {
     }
     deed(1, LARGE, 310);
     deed(1, LARGE, 399);
+  }
+
+  /** The first CELL that isn't in a valley, be it in a larger one. */
+  private static void deedsInSmallValleys() {
+    String[] words = {"100 to 199: it is LET GO in CELL v - 100", "200 to 299: a DRIFT comes to CELL v - 200, or goes",
+        "1000 to 1999: into CELL (v - 1000) by 10 KIND v modulo 10 is PUT"};
+    int[] begins = {100, 200, 1000};
+    for (int sort = 0; sort < 3; sort++) {
+      name(words[sort]);
+      int each = sort == 2 ? 10 : 1;
+      for (int rows = 1; rows <= 4; rows++) {
+        for (int columns = 1; columns <= 4; columns++) {
+          String text = "valley " + rows + " " + columns + " bears 1;";
+          int beyond = begins[sort] + each * rows * columns;
+          deed(0, text, beyond - each);
+          deed(1, text, beyond);
+        }
+      }
+    }
   }
 
   private static void deedsOfPuts() {

@@ -40,6 +40,9 @@ final class FlightBounds {
     b.leaves(-1, "soonest", 0, 0, 0);
     nothingElse();
     onOneObject();
+    byLaws();
+    barredCells();
+    allThatCanBe();
     name("COMING to a CELL with a set of ECHOES, without another set: a FLIGHT behind which it is there, has all of the one, none of the other");
     Bat all = Bat.in(Valleys.LONG);
     all.leaves(44, "soonest", 2, 63, 0);
@@ -59,6 +62,79 @@ final class FlightBounds {
     Bat other = Bat.in(Valleys.RING + "thing 1 6;");
     other.due(2, "way", 3, 0, 32, 0);
     other.due(1, "way", 3, 0, 0, 0);
+  }
+
+  /** What each name of the laws tells along a FLIGHT: THE BAT goes by it to 1 and to 2, takes up by it there, or doesn't. */
+  private static void byLaws() {
+    String lane = "valley 1 3 bears 6;row 0 3 5 7;thing 1 2;thing 2 6;bat 0 1 4;wind 8;drift 0;";
+    String[] holding = {"wind = 8", "height = from + 2", "load > 1 and load < 4", "cell > 0", "height > 3 and height < 8", "from > 2 and from < 6"};
+    String[] broken = {"wind < 8", "not height = from + 2 and not height + 2 = from", "load < 2 or load > 3", "cell < 1 or cell > 2", "height = 3", "from = 4"};
+    // the bat has 9, that is KINDS 1 and 4; 2 and 32 come to them
+    for (String law : holding) {
+      laneFlown(Bat.in(lane + "may : " + law + " or height < from;"), 2, 43);
+      laneFlown(Bat.in(lane + "takes : " + law + ";"), 2, 43);
+    }
+    for (String law : broken) {
+      laneFlown(Bat.in(lane + "may : " + law + ";"), 0, 9);
+      laneFlown(Bat.in(lane + "takes : " + law + ";"), 2, 9);
+    }
+    laneFlown(Bat.in(lane + "takes : thing = 2;"), 2, 11);
+    laneFlown(Bat.in(lane + "takes : thing = 6;"), 2, 41);
+    laneFlown(Bat.in(lane + "takes : load = 3;"), 2, 9);
+    laneFlown(Bat.in(lane + "takes : load = 2;"), 2, 11);
+    laneFlown(Bat.in(lane + "may : load = 2;"), 1, 11);
+    laneFlown(Bat.in(lane + "may : not from = 5;"), 1, 11);
+  }
+
+  /** How far it can go in a lane of three, one way alone, and what it can come to have. */
+  private static void laneFlown(Bat b, int far, long heard) {
+    b.due((2 << far) - 1, "reach");
+    b.due(heard, "heard");
+    for (int c = 1; c <= 2; c++) {
+      b.due(c <= far ? c : -1, "soonest", c, 0, 0);
+      b.due(c <= far ? 1 : 0, "ways", c, 0, 0, c);
+      b.due(c <= far ? 1 : 0, "chance", c, 0, c, 0);
+      b.due(c <= far ? 1L << 2 * c : 1, "chance", c, 0, c, 1);
+    }
+    b.due(1, "came", far, far, heard);
+    b.due(Long.bitCount(heard), "most", far);
+  }
+
+  /** One CELL into which it may not come, from wherever; the others it comes to from all sides. */
+  private static void barredCells() {
+    for (int barred = 0; barred < 16; barred++) {
+      for (int from = 0; from < 16; from++) {
+        if (from == barred) continue;
+        Bat b = Bat.in("valley 4 4 bears 1;bat " + from + ";may : not cell = " + barred + ";");
+        b.due(65535 - (1 << barred), "reach");
+        b.due(-1, "soonest", barred, 0, 0);
+        b.due(0, "ways", barred, 0, 0, 12);
+        b.due(0, "came", 9, barred, 0);
+        b.due(0, "chance", barred, 0, 8, 0);
+      }
+    }
+  }
+
+  /** All CELLS with all sets of six: what stands beside 5 and 10 is taken up from there alone. */
+  private static void allThatCanBe() {
+    String all = "valley 4 4 bears 6;row 1 0 1 0 0;row 2 0 0 1 0;thing 1 1;thing 4 2;thing 6 3;thing 9 4;thing 11 5;thing 14 6;takes : from = 1;";
+    for (int c = 0; c < 16; c++) {
+      Bat b = Bat.in(all + "house " + c + ";");
+      b.due(64, "tidings", 0);
+      b.due(63, "tiding", 0, 63);
+      b.due(-1, "tiding", 0, 64);
+      b.due(6, "most", c);
+      for (int set = 0; set < 64; set++) Sentences.holds(set + " in " + c, b.ask("soonest", c, set, 63 - set) >= 0);
+    }
+    Bat last = Bat.in("valley 4 4 bears 6;bat 15 1 2 3 4 5 6;");
+    last.due(1, "came", 1, 14, 63);
+    last.due(2, "came", 2, 15, 63);
+    last.due(2, "ways", 15, 63, 0, 2);
+    last.due(0, "cameBy", 2, 15, 63, 0);
+    last.due(32768, "surely", 2, 15, 63);
+    last.due(3, "chance", 15, 63, 2, 0);
+    last.due(8, "chance", 15, 63, 2, 1);
+    for (int n = 0; n <= 8; n++) last.due(6, "mean", n, 0);
   }
 
   /** Calls that ask change nothing. */
@@ -362,7 +438,9 @@ final class FlightBounds {
     Bat ring = Bat.in(Valleys.RING);
     ring.leaves(8, "surely", 2, 3, 0);
     ring.leaves(1, "surely", 10, 0, 0);
-    Bat.in("valley 1 2 bears 1;").leaves(3, "surely", 10, 0, 0);
+    // now an odd number of times into each, now an even one
+    Bat two = Bat.in("valley 1 2 bears 1;");
+    for (int n = 0; n <= 10; n++) two.leaves(n == 0 ? 0 : n == 1 ? 2 : 3, "surely", n, n % 2, 0);
     Bat.in("valley 4 4 bears 1;bat 14;").leaves(32768, "surely", 1, 15, 0);
     Sentences.name(30, "As came().");
     Valleys.cells("surely", 1, 3, 0, 0);

@@ -15,6 +15,7 @@ final class TextBounds {
     nesting();
     lawsAnew();
     sizes();
+    lastCells();
     rows();
     things();
     driftsAndHouses();
@@ -181,6 +182,9 @@ final class TextBounds {
     lawFaulty(2, 4, "1 = not 1 = 1;");
     lawFaulty(2, 5, "1 = 1[1 = 1];");
     lawFaulty(2, 2, "1 not = 1;");
+    lawFaulty(2, 9, "not 1 = 1];");
+    lawFaulty(2, 15, "[not not 1 = 1]];");
+    lawFaulty(2, 10, "not [1 = 1;");
   }
 
   private static void sums() {
@@ -207,6 +211,10 @@ final class TextBounds {
     lawFaulty(2, 1, "() = 1;");
     lawFaulty(2, 2, "(1;");
     lawFaulty(2, 1, "1) = 1;");
+    lawFaulty(2, 6, "1 = (1;");
+    lawFaulty(2, 8, "1 = ((1);");
+    lawFaulty(2, 5, "1 = 1);");
+    lawFaulty(2, 7, "[1 = (1];");
     lawFaulty(2, 3, "(1 = 1);");
     lawFaulty(2, 1, "([1 = 1]) = 1;");
     lawFaulty(2, 1, "(not 1 = 1) = 1;");
@@ -244,6 +252,17 @@ final class TextBounds {
     law(false, times(6, "1 = 2 or 1 = 1 and [") + "1 = 2 or 1 = 1 and 7 = 1 + 3 * 3" + times(6, "]"));
     law(true, "1 = 2 or 1 = 1 and 7 = " + times(6, "0 + 1 * (") + "1 + 2 * 3" + times(6, ")"));
     law(true, times(3, "1 = 2 or 1 = 1 and [") + "1 = 2 or 1 = 1 and 7 = " + times(3, "0 + 1 * (") + "1 + 2 * 3" + times(3, ")") + times(3, "]"));
+    // what was joined ahead of them is around none of them
+    String[] joined = {"1 + 1 = 2 and ", "1 = 1 or 1 = 2 or ", "1 = 1 and 1 = 1 and ", "1 * 2 * 3 - 4 + 5 > 6 and ", "not 1 = 2 and not 1 = 2 and ", "(1) = (1) and [1 = 1] and "};
+    for (String ahead : joined) {
+      law(true, ahead + times(6, "[") + "1 = 1" + times(6, "]"));
+      law(true, ahead + times(6, "not ") + "1 = 1");
+      law(true, ahead + times(6, "(") + "1" + times(6, ")") + " = 1");
+      lawFaulty(4, ahead.length() + 6, ahead + times(7, "[") + "1 = 1" + times(7, "]") + ";");
+      lawFaulty(4, ahead.length() + 24, ahead + times(7, "not ") + "1 = 1;");
+      lawFaulty(4, ahead.length() + 6, ahead + times(7, "(") + "1" + times(7, ")") + " = 1;");
+      lawFaulty(4, ahead.length() + 10, ahead + "1 = " + times(7, "(") + "1" + times(7, ")") + ";");
+    }
     // a not is around both sides of its comparison
     law(true, "not 2 = (((((1)))))");
     lawFaulty(4, 13, "not 2 = ((((((1))))));");
@@ -286,6 +305,29 @@ final class TextBounds {
     for (String beyond : new String[] {"0", "000", "7", "8", "999"}) faulty(3, 17, "valley 1 1 bears " + beyond + ";");
   }
 
+  /** The last CELL of each valley, and the first that isn't in it, in all LINES that name one. */
+  private static void lastCells() {
+    String[] words = {"thing: a CELL, a KIND 0 to 6", "drift: a CELL", "house: a CELL, numbered from 0 on, 4 at most.",
+        "bat: a CELL where it is (without one: CELL 0)"};
+    String[] begins = {"thing ", "drift ", "house ", "bat "};
+    String[] ends = {" 6;", ";", ";", ";"};
+    for (int i = 0; i < words.length; i++) {
+      name(words[i]);
+      for (int rows = 1; rows <= 4; rows++) {
+        for (int columns = 1; columns <= 4; columns++) {
+          String text = "valley " + rows + " " + columns + " bears 1;" + begins[i];
+          int last = rows * columns - 1;
+          Bat b = read(2, text + last + ends[i]);
+          b.due(i == 0 ? 6 : 0, "cell", last, 1);
+          b.due(i == 1 ? 1L << last : 0, "count", 5);
+          b.due(i == 2 ? 0 : -1, "cell", last, 3);
+          b.due(i == 3 ? last : 0, "count", 3);
+          faulty(3, text.length(), text + (last + 1) + ends[i]);
+        }
+      }
+    }
+  }
+
   private static void rows() {
     name("row: its HEIGHTS, 0 to 9, as many as columns");
     Bat b = lineRead("row 1 0 9;");
@@ -305,6 +347,16 @@ final class TextBounds {
     read(2, "valley 1 4 bears 1;row 0 1 2 3 4;").due(4, "cell", 3, 0);
     faulty(2, 30, "valley 1 4 bears 1;row 0 1 2 3;");
     faulty(2, 33, "valley 1 4 bears 1;row 0 1 2 3 4 5;");
+    for (int rows = 1; rows <= 4; rows++) {
+      for (int columns = 1; columns <= 4; columns++) {
+        String text = "valley " + rows + " " + columns + " bears 1;row ";
+        Bat last = read(2, text + (rows - 1) + times(columns, " 9") + ";");
+        for (int c = 0; c < rows * columns; c++) last.due(c < (rows - 1) * columns ? 0 : 9, "cell", c, 0);
+        faulty(3, text.length(), text + rows + times(columns, " 9") + ";");
+        faulty(2, text.length() + 2 + 2 * columns, text + "0" + times(columns, " 9") + " 9;");
+        faulty(2, text.length() - 1 + 2 * columns, text + "0" + times(columns - 1, " 9") + ";");
+      }
+    }
     name("(all 0; a later one of the same row strikes)");
     Bat all = Bat.in(SMALL + "row 1 9 8;row 1 0 4;");
     int[] heights = {0, 0, 0, 4};
@@ -586,6 +638,16 @@ final class TextBounds {
     flown.due(1, "valley", 20);
     flown.counts(1, 1, 1, 0, 0, 0, 0, 0, 0, 0, 0, 1);
     flown.refused(-3, "undo", 1);
+    // TRAYS and IMAGES stay: 303 and 305 are WINDS, 1032 is put into a CELL that isn't there any more
+    flown.due(2, "judge", 0, 1);
+    flown.due(303, "write", 0, 0, 303);
+    flown.due(2, "judge", 0, 0);
+    flown.due(-6, "judge", 2, 0);
+    flown.due(0, "judge", 1, 0);
+    flown.refused(-7, "write", 1, 2, 0);
+    flown.refused(-7, "write", 3, 0, 0);
+    flown.due(0, "restore", 1);
+    flown.counts(2, 2, 2, 0, 16, 0, 3, 2, 0, 0, 0, 12);
     Sentences.name(3, "how many LINES (valley, too; all stays with a FAULT).");
     read(1, SMALL);
     read(4, SMALL + "wind 1;wind 1;wind 1;");
